@@ -93,6 +93,9 @@ public final class ActsTest {
         due.is("gang of all", x.gang(0, 5), 54);
         due.are("0 where the STEP is 0 anyway, REACH else", Due.pegs(x, 3), 0, 0, 0, 0, 2);
         due.is("ACTS, of those that stay, too", x.count(4), 8);
+        SlewRails far = Due.of("p0,3;p0,3;p0,3;p9,3;p60,3;");
+        due.is("gang(3, 1)", far.gang(3, 1), 60);
+        due.are("by the STEP of the one ahead", Due.pegs(far, 3), 0, 0, 0, -3, 0);
         SlewRails y = Due.of("p0,2;p60,3;p0,3;");
         y.gang(0, 2);
         due.are("as far as REACH goes", Due.pegs(y, 3), 2, -3, 0);

@@ -29,6 +29,10 @@ public final class ForetoldTest {
         SlewRails last = Due.of("p20,3;p20,3;p60,3;");
         due.is("the last one", last.wrong(0), 2);
         due.is("its VERSINE", last.wrong(1), 20);
+        SlewRails least = Due.of("p1,3;p0,3;p0,3;");
+        due.is("PEG 0, by no more than 1", least.wrong(0), 0);
+        due.is("VERSINE 0", least.wrong(1), 0);
+        due.is("VERSINE 60", Due.of("p0,3;p60,3;p60,3;").wrong(1), 60);
     }
 
     private static void wrongBeyond(Due due) {
@@ -62,6 +66,9 @@ public final class ForetoldTest {
         due.is("a sum up to an int", sum.moment(536870911), 2147483644);
         due.is("a sum beyond", sum.moment(536870912), OVER);
         due.is("a sum down to an int", sum.moment(-536870912), -2147483648);
+        SlewRails most = Due.of("p1,3;p0,3;p0,3;");
+        due.is("the greatest int", most.moment(Integer.MAX_VALUE), Integer.MAX_VALUE);
+        due.is("the least int", most.moment(Integer.MIN_VALUE), Integer.MIN_VALUE);
     }
 
     private static void momentOnTheWay(Due due) {
@@ -98,6 +105,11 @@ public final class ForetoldTest {
         due.is("nothing changes", x.peg(1, 3), 2);
         x.set(0, 0, -1000);
         due.is("beyond all", x.fits(0, 0, 1, 2), NONE);
+        x.set(0, 0, 58);
+        due.is("VERSINE 60", x.fits(0, 0, 1, 2), 60);
+        due.is("VERSINE 60, too", x.fits(0, 0, 1, 1), 1);
+        x.set(0, 0, 59);
+        due.is("VERSINE 61 is none", x.fits(0, 0, 1, 1), 0);
     }
 
     private static void fitsRefused(Due due) {

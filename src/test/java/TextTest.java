@@ -43,6 +43,7 @@ public final class TextTest {
         x.lay(2, -2);
         x.work();
         x.lay(0, 3);
+        x.drawn(3, 1, 0);
         due.is("another rail", Due.read(x, "p1,3;p2,3;p3,3;"), 3);
         due.is("its PEGS", x.count(1), 3);
         due.are("its SLEWS are 0", Due.pegs(x, 3), 0, 0, 0);
