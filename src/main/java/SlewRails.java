@@ -28,8 +28,8 @@ public final class SlewRails {
     private final Rail draft = new Rail();
     private final Rail[] images = new Rail[MOST_IMAGES];
     private final History history = new History();
-    private final Asks asks = new Asks(rail);
-    private final Settling settling = new Settling(rail);
+    private final Asks asks = new Asks();
+    private final Settling settling = new Settling();
     /** Made with the first best(), as its table is large and many objects never need it. */
     private Search search = null;
     private int status = 0;
@@ -318,7 +318,7 @@ public final class SlewRails {
         if (!isWithin(v, 0, MOST_CHANCE) || !isWithin(c, 0, Settling.PARTS) || !isWithin(what, 0, 1)) {
             return BAD;
         }
-        settling.solve(v, c);
+        settling.solve(rail, v, c);
         return what == 0 ? settling.above : settling.below;
     }
 
@@ -381,7 +381,7 @@ public final class SlewRails {
         if (!isPeg(peg) || !isWithin(what, Asks.SIZE_ASK, Asks.MARK_ASK)) {
             return BAD;
         }
-        return asks.begin(peg, what);
+        return asks.begin(rail, peg, what);
     }
 
     public int trace(int i) {
@@ -1069,21 +1069,16 @@ public final class SlewRails {
 
         long above = 0;
         long below = 1;
-        private final Rail rail;
         private long[] ways = new long[CHOICES];
         private long[] waysOn = new long[CHOICES];
         private int settled = 0;
 
-        Settling(Rail rail) {
-            this.rail = rail;
-        }
-
         /** That WORST is v or less, if each soft PEG settles by c of PARTS, in lowest terms. */
-        void solve(int v, int c) {
+        void solve(Rail rail, int v, int c) {
             settled = c;
-            beginWays();
+            beginWays(rail);
             for (int p = 0; p < rail.pegs - 1; p++) {
-                goOn(p, v);
+                goOn(rail, p, v);
             }
             above = 0;
             for (int choice = 0; choice < CHOICES; choice++) {
@@ -1091,7 +1086,7 @@ public final class SlewRails {
             }
             below = 1;
             for (int p = 0; p < rail.pegs; p++) {
-                below *= settles(p) ? PARTS : 1;
+                below *= settles(rail, p) ? PARTS : 1;
             }
             long common = commonDivisor(below, above);
             if (common > 1) {
@@ -1101,33 +1096,33 @@ public final class SlewRails {
         }
 
         /** Whether a PEG has two choices: where half of a SLEW is nothing, settling makes no difference. */
-        private boolean settles(int peg) {
+        private static boolean settles(Rail rail, int peg) {
             return rail.settledAt(peg) != rail.slewAt(peg);
         }
 
-        private int slewBy(int peg, int choice) {
+        private static int slewBy(Rail rail, int peg, int choice) {
             return choice == 0 ? rail.slewAt(peg) : rail.settledAt(peg);
         }
 
-        private int waysOf(int peg, int choice) {
-            if (!settles(peg)) {
+        private int waysOf(Rail rail, int peg, int choice) {
+            if (!settles(rail, peg)) {
                 return 1 - choice;
             }
             return choice == 0 ? PARTS - settled : settled;
         }
 
-        private void beginWays() {
+        private void beginWays(Rail rail) {
             Arrays.fill(ways, 0);
             for (int choice = 0; choice < 4; choice++) {
-                ways[choice] = waysOf(0, choice / 2) * waysOf(1, choice % 2);
+                ways[choice] = waysOf(rail, 0, choice / 2) * waysOf(rail, 1, choice % 2);
             }
         }
 
-        private void goOn(int peg, int v) {
+        private void goOn(Rail rail, int peg, int v) {
             Arrays.fill(waysOn, 0);
             for (int choice = 0; choice < 2 * CHOICES; choice++) {
-                long more = ways[choice / 2] * waysOf(peg + 2, choice % 2);
-                if (more != 0 && stepBy(peg, choice) <= v) {
+                long more = ways[choice / 2] * waysOf(rail, peg + 2, choice % 2);
+                if (more != 0 && stepBy(rail, peg, choice) <= v) {
                     waysOn[choice % CHOICES] += more;
                 }
             }
@@ -1137,14 +1132,14 @@ public final class SlewRails {
         }
 
         /** The STEP of a PEG by the choices of four PEGS, the one ahead of it in the highest bit. */
-        private int stepBy(int peg, int choice) {
+        private static int stepBy(Rail rail, int peg, int choice) {
             if (rail.isEased(peg)) {
                 return 0;
             }
-            int a = slewBy(peg - 1, choice >> 3 & 1);
-            int b = slewBy(peg, choice >> 2 & 1);
-            int c = slewBy(peg + 1, choice >> 1 & 1);
-            int d = slewBy(peg + 2, choice & 1);
+            int a = slewBy(rail, peg - 1, choice >> 3 & 1);
+            int b = slewBy(rail, peg, choice >> 2 & 1);
+            int c = slewBy(rail, peg + 1, choice >> 1 & 1);
+            int d = slewBy(rail, peg + 2, choice & 1);
             return Math.abs(rail.versines[peg] - rail.versines[peg + 1] + 3 * (b - c) - a + d);
         }
 
@@ -1171,32 +1166,25 @@ public final class SlewRails {
 
         final int[] trace = new int[MOST_TRACE];
         int left = 0;
-        private final Rail rail;
-        private int peg = 0;
 
-        Asks(Rail rail) {
-            this.rail = rail;
-        }
-
-        int begin(int asked, int what) {
-            peg = asked;
+        int begin(Rail rail, int peg, int what) {
             left = 0;
-            return answer(what, 0);
+            return answer(rail, peg, what, 0);
         }
 
-        private int answer(int what, int depth) {
+        private int answer(Rail rail, int peg, int what, int depth) {
             int kind = rail.kinds[peg];
             for (int up = 0; up < ALSO.length && kind >= 0; up++) {
                 int body = what == SIZE_ASK ? SIZE_BODIES[kind] : MARK_BODIES[kind];
                 if (body != 0) {
-                    return run(body, depth);
+                    return run(rail, peg, body, depth);
                 }
                 kind = ALSO[kind];
             }
             return 0;
         }
 
-        private int run(int body, int depth) {
+        private int run(Rail rail, int peg, int body, int depth) {
             if (depth >= MOST_DEPTH) {
                 return 0;
             }
@@ -1204,15 +1192,15 @@ public final class SlewRails {
             int deeper = depth + 1;
             switch (body) {
                 case 10: return rail.now(peg);
-                case 11: return run(10, deeper) + answer(MARK_ASK, deeper);
-                case 12: return -run(11, deeper);
-                case 13: return run(10, deeper) - 100;
-                case 14: return 2 * run(13, deeper);
+                case 11: return run(rail, peg, 10, deeper) + answer(rail, peg, MARK_ASK, deeper);
+                case 12: return -run(rail, peg, 11, deeper);
+                case 13: return run(rail, peg, 10, deeper) - 100;
+                case 14: return 2 * run(rail, peg, 13, deeper);
                 case 20: return peg;
-                case 21: return run(20, deeper) + rail.slews[peg];
-                case 22: return run(21, deeper) - 1000;
-                case 23: return run(20, deeper) - answer(SIZE_ASK, deeper);
-                case 24: return 2 * run(21, deeper);
+                case 21: return run(rail, peg, 20, deeper) + rail.slews[peg];
+                case 22: return run(rail, peg, 21, deeper) - 1000;
+                case 23: return run(rail, peg, 20, deeper) - answer(rail, peg, SIZE_ASK, deeper);
+                case 24: return 2 * run(rail, peg, 21, deeper);
                 default: return 0;
             }
         }
