@@ -44,33 +44,38 @@ public final class ChanceTest {
         due.is("no RAIL ahead of BAD", new SlewRails().chance(100, 5, 0), STATE);
     }
 
-    private static int worstBy(SlewRails x, int settled) {
-        int n = x.count(1);
-        int[] slews = new int[n + 2];
+    private static int worstBy(long[] versines, long[] laid, long[] kinds, int settled) {
+        int n = versines.length;
+        long[] slews = new long[n + 2];
         for (int p = 0; p < n; p++) {
-            int slew = x.peg(p, 3);
-            slews[p + 1] = (settled >> p & 1) == 1 ? slew - slew / 2 : slew;
+            slews[p + 1] = (settled >> p & 1) == 1 ? laid[p] - laid[p] / 2 : laid[p];
         }
-        int worst = 0;
+        long[] now = new long[n];
+        for (int p = 0; p < n; p++) {
+            now[p] = versines[p] + 2 * slews[p + 1] - slews[p] - slews[p + 2];
+        }
+        long worst = 0;
         for (int p = 0; p + 1 < n; p++) {
-            int here = x.peg(p, 0) + 2 * slews[p + 1] - slews[p] - slews[p + 2];
-            int next = x.peg(p + 1, 0) + 2 * slews[p + 2] - slews[p + 1] - slews[p + 3 > n + 1 ? n + 1 : p + 3];
-            if (x.kind(p) != 3 && x.kind(p + 1) != 3) {
-                worst = Math.max(worst, Math.abs(here - next));
+            if (kinds[p] != 3 && kinds[p + 1] != 3) {
+                worst = Math.max(worst, Math.abs(now[p] - now[p + 1]));
             }
         }
-        return worst;
+        return (int) worst;
     }
 
     private static void compare(Due due, SlewRails x, int v, int c, String about) {
-        int n = x.count(1);
+        long[] versines = Due.pegs(x, 0);
+        long[] laid = Due.pegs(x, 3);
+        int n = versines.length;
+        long[] kinds = new long[n];
         int soft = 0;
         for (int p = 0; p < n; p++) {
-            soft |= x.kind(p) == 2 ? 1 << p : 0;
+            kinds[p] = x.kind(p);
+            soft |= kinds[p] == 2 ? 1 << p : 0;
         }
         BigInteger above = BigInteger.ZERO;
         for (int settled = 0; settled < 1 << n; settled++) {
-            if ((settled & ~soft) == 0 && worstBy(x, settled) <= v) {
+            if ((settled & ~soft) == 0 && worstBy(versines, laid, kinds, settled) <= v) {
                 int many = Integer.bitCount(settled);
                 above = above.add(BigInteger.valueOf(c).pow(many)
                     .multiply(BigInteger.valueOf(10 - c).pow(Integer.bitCount(soft) - many)));

@@ -1,6 +1,9 @@
 /** Compares answers with those that are due, for tests that have a main method of their own. */
 final class Due {
     private final String name;
+    private String sentence = "";
+    private int sentences = 0;
+    private int askedOfSentence = 1;
     private int asked = 0;
     private int wrong = 0;
 
@@ -8,11 +11,27 @@ final class Due {
         this.name = name;
     }
 
+    /** What follows, up to the next sentence, tests this one: the document's own words. */
+    void sentence(String words) {
+        endSentence();
+        sentence = " [" + words + "]";
+        sentences++;
+        askedOfSentence = 0;
+    }
+
+    private void endSentence() {
+        if (askedOfSentence == 0) {
+            wrong++;
+            System.out.println(name + sentence + ": nothing was tested");
+        }
+    }
+
     void is(String call, long got, long want) {
         asked++;
+        askedOfSentence++;
         if (got != want) {
             wrong++;
-            System.out.println(name + ": " + call + " answered " + got + ", due is " + want);
+            System.out.println(name + sentence + ": " + call + " answered " + got + ", due is " + want);
         }
     }
 
@@ -29,7 +48,9 @@ final class Due {
     }
 
     void end() {
-        System.out.println(name + ": " + asked + " answers, " + wrong + " not as due");
+        endSentence();
+        System.out.println(name + ": " + asked + " answers" + (sentences == 0 ? "" : " to " + sentences + " sentences")
+            + ", " + wrong + " not as due");
         if (wrong != 0 || asked == 0) {
             System.exit(1);
         }

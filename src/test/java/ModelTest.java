@@ -28,6 +28,7 @@ public final class ModelTest {
     }
 
     private int peg() {
+        calls++;
         int n = x.count(1);
         return some(0, n == 0 ? 0 : n - 1);
     }
@@ -176,7 +177,7 @@ public final class ModelTest {
 
     private void run() {
         int pause = by.nextInt(20);
-        while (calls < 400) {
+        while (calls < 310) {
             if (pause-- <= 0) {
                 readText();
                 pause = 30 + by.nextInt(120);
@@ -189,7 +190,8 @@ public final class ModelTest {
                 default: look();
             }
         }
-        for (int p = 0; p < x.count(1); p++) {
+        int n = x.count(1);
+        for (int p = 0; p < n; p++) {
             for (int what = 0; what < 8; what++) {
                 same("at last peg(" + p + ", " + what + ")", x.peg(p, what), y.peg(p, what));
             }
@@ -198,7 +200,7 @@ public final class ModelTest {
 
     public static void main(String[] args) {
         Due due = new Due("ModelTest");
-        for (int seed = 1; seed <= 1500; seed++) {
+        for (int seed = 1; seed <= 2500; seed++) {
             new ModelTest(due, seed).run();
         }
         due.end();
