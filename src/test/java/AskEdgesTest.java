@@ -120,7 +120,11 @@ public final class AskEdgesTest {
 
     /** NOW is 2 27 28 5 7, SLEWS are -3 2 0 0 0. */
     private static void traces(Due due) {
-        due.sentence("each of which leaves its number in THE TRACE as it begins (the first 16)");
+        due.sentence("each of which leaves its number in THE TRACE as it begins (the first 16): 0 SIZE: 10 lent to all PEGS: "
+            + "NOW. 11 of PLAIN ones: what 10 gives, and MARK. 12 of SOFT ones: 0 less what 11 gives. 13 of BRIDGES: what "
+            + "10 gives, less 100. 14 of ENDS: what 13 gives, twice. 1 MARK: 20 lent to all PEGS: the number. 21 of PLAIN "
+            + "ones: what 20 gives, and SLEW. 22 of JOINTS: what 21 gives, less 1000. 23 of BRIDGES: what 20 gives, less "
+            + "SIZE. 24 of SOFT ones: what 21 gives, twice.");
         long[][] told = {{11, 10, 21, 20}, {21, 20}, {12, 11, 10, 24, 21, 20}, {24, 21, 20}, {11, 10, 22, 21, 20},
             {22, 21, 20}, {13, 10}, {23, 20, 13, 10}, {14, 13, 10}, {23, 20, 14, 13, 10}};
         long[] answers = {2 - 3, -3, -(27 + 6), 6, 28 + 2 - 1000, 2 - 1000, 5 - 100, 3 - (5 - 100), 2 * (7 - 100),
@@ -159,7 +163,8 @@ public final class AskEdgesTest {
 
     /** The same PEG is asked anew: what stands within an ask is that of the PEG's own KIND. */
     private static void asksFar(Due due) {
-        due.sentence("SIZE, MARK within others are asked of the same PEG anew.");
+        due.sentence("(Of an ask the BODY told for the KIND begins, else that of the nearest KIND that it is, too, else the "
+            + "one that is lent; SIZE, MARK within others are asked of the same PEG anew.)");
         SlewRails x = Due.of("e0,0;" + "p0,3;".repeat(10) + "e0,0;");
         due.is("MARK of the first", x.ask(0, 1), 0 - 2 * (0 - 100));
         due.is("MARK of the last", x.ask(11, 1), 11 - 2 * (0 - 100));
@@ -190,6 +195,36 @@ public final class AskEdgesTest {
         due.is("WORKED IN since another was read", x.count(3), 0);
         due.is("PEGS", x.count(1), 3);
         due.is("no RAIL", new SlewRails().count(6), BAD);
+    }
+
+    private static void findings(Due due) {
+        due.sentence("-1000010 less 1 NULL (a ROW that is missing), 2 PLACE (no such place of a ROW), 3 KIND (a PEG that is "
+            + "not that), 4 SIZE (fewer than none), 5 STORE (ROWS of two LANES), 6 OVER (beyond the numbers of an int).");
+        SlewRails x = Due.of(ALL);
+        x.row(0, 2, 3);
+        x.row(1, 1, 3);
+        due.is("1", x.set(2, 0, 0), -1000011);
+        due.is("status()", x.status(), 1);
+        due.is("2", x.set(0, 3, 0), -1000012);
+        due.is("status()", x.status(), 2);
+        due.is("3", x.as(0, 5), -1000013);
+        due.is("status()", x.status(), 3);
+        due.is("4", x.row(0, 0, -1), -1000014);
+        due.is("status()", x.status(), 4);
+        due.is("5", x.copy(0, 0, 1, 0, 1), -1000015);
+        due.is("status()", x.status(), 5);
+        due.is("6", x.moment(MOST), -1000016);
+        due.is("status()", x.status(), 6);
+    }
+
+    /** What the 512th call answers is due as what the first one does. */
+    private static void manyCalls(Due due) {
+        due.sentence("An object is used for at most 512 calls after it has been made; what later calls answer is free.");
+        SlewRails x = Due.of("p10,3;s20,3;p30,3;");
+        for (int k = 19; k < 511; k++) {
+            due.is("call " + (k + 1), k % 2 == 1 ? x.read(1, k % 61) : x.peg(1, 0), k == 19 ? 20 : (k - k % 2 - 1) % 61);
+        }
+        due.is("call 512", x.undo(), 23);
     }
 
     /** The document promises 512 calls alone: beyond them what is told here is free, but it does hold. */
@@ -269,6 +304,7 @@ public final class AskEdgesTest {
             SlewRails x = Due.of(ALL);
             x.row(0, 2, 3);
             x.row(1, 1, 3);
+            due.is("status() at first", x.status(), 0);
             for (int k = 0; k < 8; k++) {
                 due.is("FINDING " + finding, found[finding - 1].on(x), -1000010 - finding);
                 due.is("status()", x.status(), finding);
@@ -293,6 +329,8 @@ public final class AskEdgesTest {
         asksFar(due);
         counts(due);
         workedOften(due);
+        findings(due);
+        manyCalls(due);
         statusStays(due);
         statusOfEach(due);
         due.end();

@@ -141,10 +141,65 @@ public final class BestTest {
         test.compare(due, x, "fewer");
     }
 
+    /** VERSINES that these SLEWS, and no others, bring to 30 each. */
+    private static String evenedBy(String sorts, int[] slews) {
+        StringBuilder text = new StringBuilder();
+        int n = slews.length;
+        for (int p = 0; p < n; p++) {
+            int ahead = p == 0 ? 0 : slews[p - 1];
+            int next = p == n - 1 ? 0 : slews[p + 1];
+            text.append(sorts.charAt(p)).append(30 - 2 * slews[p] + ahead + next).append(",3;");
+        }
+        return text.toString();
+    }
+
+    /**
+     * Were all NOW another number alike, k more, each SLEW would be another by k times (p + 1)(n - p) / 2: with 5 PEGS, or 7
+     * and more, that is no whole number or goes beyond 6 somewhere. So these SLEWS alone make UNEVEN 0.
+     */
+    private static void evened(Due due, SlewRails x, String sorts, int[] slews) {
+        String text = evenedBy(sorts, slews);
+        due.is("PEGS of " + text, Due.read(x, text), slews.length);
+        due.is("WORST of " + text, x.best(0), 0);
+        due.is("UNEVEN of " + text, x.best(1), 0);
+        int moved = 0;
+        for (int p = 0; p < slews.length; p++) {
+            moved += Math.abs(slews[p]);
+            due.is("best(" + (10 + p) + ") of " + text, x.best(10 + p), slews[p]);
+        }
+        due.is("how much is moved of " + text, x.best(2), moved);
+    }
+
+    /** All SLEWS, and long RAILS, where they are too many to be tried one by one; several RAILS behind one another. */
+    private static void longOnes(Due due, Random by) {
+        String plain = "p".repeat(12);
+        evened(due, new SlewRails(), plain, new int[] {-3, -3, -3, -3, -3, -3, -3, -3, -3, -3, -3, -3});
+        evened(due, new SlewRails(), plain, new int[] {3, 3, 3, 3, 3, 3, 3, 3, 3, 3, 3, 3});
+        evened(due, new SlewRails(), plain, new int[] {3, -3, 3, -3, 3, -3, 3, -3, 3, -3, 3, -3});
+        evened(due, new SlewRails(), plain, new int[] {-3, 3, -3, 3, -3, 3, -3, 3, -3, 3, -3, 3});
+        evened(due, new SlewRails(), plain, new int[12]);
+        int[] sizes = {5, 7, 8, 9, 10, 11, 12};
+        for (int k = 0; k < 200; k++) {
+            SlewRails x = new SlewRails();
+            for (int rail = 0; rail < 4; rail++) {
+                int[] slews = new int[sizes[by.nextInt(7)]];
+                StringBuilder sorts = new StringBuilder();
+                for (int p = 0; p < slews.length; p++) {
+                    char sort = k % 2 == 0 ? 'p' : "pppsbe".charAt(by.nextInt(6));
+                    int reach = sort == 'p' ? 3 : sort == 's' ? 2 : 0;
+                    slews[p] = by.nextInt(3) == 0 ? -reach : by.nextInt(2 * reach + 1) - reach;
+                    sorts.append(sort);
+                }
+                evened(due, x, sorts.toString(), slews);
+            }
+        }
+    }
+
     public static void main(String[] args) {
         Due due = new Due("BestTest");
         byHand(due);
         changes(due);
+        longOnes(due, new Random(3));
         BestTest test = new BestTest();
         Random by = new Random(1);
         for (int k = 0; k < 400; k++) {

@@ -84,6 +84,54 @@ public final class ForetoldEdgesTest {
         best(due, "e8,0;s14,2;e8,0;", 3, 6, 1, 0, -1, 0);
     }
 
+    private static void bestInPlace(Due due) {
+        due.sentence("BEST: of all SLEWS within REACH (laid in place of those there are)");
+        SlewRails x = Due.of("p4,1;b6,0;p4,1;");
+        for (int v = -1; v <= 1; v++) {
+            x.lay(0, v);
+            x.lay(2, -v);
+            due.is("WORST", x.best(0), 1);
+            due.is("UNEVEN", x.best(1), 2);
+            due.is("how much is moved", x.best(2), 1);
+            due.is("SLEW 0", x.best(10), 0);
+            due.is("SLEW 2", x.best(12), 1);
+            due.is("those there are stay", x.peg(0, 3), v);
+        }
+        x.bound(2, 0);
+        due.is("another REACH: SLEW 0", x.best(10), 1);
+        due.is("another REACH: SLEW 2", x.best(12), 0);
+        x.bound(0, 0);
+        due.is("no REACH: WORST", x.best(0), 2);
+        due.is("no REACH: how much is moved", x.best(2), 0);
+    }
+
+    /** Each text differs from the one before in one matter alone, at each PEG. */
+    private static void bestOfAnother(Due due) {
+        due.sentence("BEST: of all SLEWS within REACH");
+        SlewRails x = Due.of("p8,2;p17,2;p8,2;");
+        // SLEWS 1 -2 1 make 12 11 12
+        due.is("plain ones: WORST", x.best(0), 1);
+        due.is("plain ones: how much is moved", x.best(2), 4);
+        due.is("plain ones: SLEW 1", x.best(11), -2);
+        Due.read(x, "s8,2;s17,2;s8,2;");
+        // SLEWS 1 -1 1 make 11 13 11
+        due.is("soft ones: WORST", x.best(0), 2);
+        due.is("soft ones: how much is moved", x.best(2), 3);
+        due.is("soft ones: SLEW 1", x.best(11), -1);
+        Due.read(x, "s8,3;s17,3;s8,3;");
+        due.is("other BOUNDS: WORST", x.best(0), 1);
+        due.is("other BOUNDS: how much is moved", x.best(2), 4);
+        due.is("other BOUNDS: SLEW 1", x.best(11), -2);
+        Due.read(x, "s9,3;s15,3;s9,3;");
+        // SLEWS 0 -2 0 make 11 11 11
+        due.is("other VERSINES: WORST", x.best(0), 0);
+        due.is("other VERSINES: how much is moved", x.best(2), 2);
+        Due.read(x, "s9,3;s15,3;s9,3;s9,3;");
+        // SLEWS 0 -2 0 1 make 11 11 10 11
+        due.is("one PEG more: WORST", x.best(0), 1);
+        due.is("one PEG more: SLEW 3", x.best(13), 1);
+    }
+
     private static void bestOfWhat(Due due) {
         due.sentence("BEST: 0 WORST, 1 UNEVEN, 2 how much is moved; 10 and a PEG: its SLEW.");
         for (int pegs = 3; pegs <= 12; pegs++) {
@@ -119,6 +167,9 @@ public final class ForetoldEdgesTest {
         wrong(due, "p12,3;p12,3;p0,3;p10,3;p10,3;", 2, 10);
         // PEG 0 as 7 and PEG 1 as 5 both leave 0
         wrong(due, "b5,0;b7,0;j9,0;j9,0;", 0, 7);
+        wrong(due, "p9,3;".repeat(12), NONE, NONE);
+        wrong(due, "p9,3;".repeat(11) + "p8,3;", 11, 9);
+        wrong(due, "p8,3;" + "p9,3;".repeat(11), 0, 9);
         SlewRails x = Due.of("p9,3;p9,3;p9,3;");
         x.lay(1, 3);
         due.is("all SLEWS being 0", x.wrong(0), NONE);
@@ -254,6 +305,18 @@ public final class ForetoldEdgesTest {
         due.is("1 of the first alone", unseen.fits(0, 0, 1, 1), 1);
     }
 
+    private static void fitsWhat(Due due) {
+        due.sentence("SLEWS (what = 0), VERSINES: how many (1), the least (2; NONE), by NOW");
+        SlewRails x = row(Due.of("p30,3;p30,3;p30,3;"), 0, 24, 33, 30);
+        due.is("what -1", x.fits(0, 0, 3, -1), BAD);
+        due.is("what 0", x.fits(0, 0, 3, 0), 1);
+        due.is("what 1", x.fits(0, 0, 1, 1), 1);
+        due.is("what 2", x.fits(0, 0, 1, 2), 24);
+        due.is("what 2, NONE", x.fits(0, 0, 3, 2), NONE);
+        due.is("status() behind NONE", x.status(), 0);
+        due.is("what 3", x.fits(0, 0, 3, 3), BAD);
+    }
+
     private static void fitsMany(Due due) {
         due.sentence("A row tells NOW of n PEGS (1 to 12) from PEG 0 on.");
         for (int pegs : new int[] {3, 11, 12}) {
@@ -344,7 +407,8 @@ public final class ForetoldEdgesTest {
     }
 
     private static void chanceOfSmall(Due due) {
-        due.sentence("that WORST is v or less then (0 to 99): a fraction.");
+        due.sentence("CHANCE: the SLEW of each soft PEG is less by half of itself (cut) by c of 10, each by itself: that WORST "
+            + "is v or less then (0 to 99): a fraction.");
         for (int v = 0; v <= 1; v++) {
             SlewRails x = Due.of("e0,0;p" + v + ",3;e0,0;");
             for (int k = 0; k < 11; k++) {
@@ -450,12 +514,15 @@ public final class ForetoldEdgesTest {
         closes(due);
         line(due);
         bestOfSeveral(due);
+        bestInPlace(due);
+        bestOfAnother(due);
         bestOfWhat(due);
         wrongs(due);
         moment(due);
         momentOnTheWay(due);
         fitsSlews(due);
         fitsVersines(due);
+        fitsWhat(due);
         fitsMany(due);
         tell(due);
         tellLowestBits(due);

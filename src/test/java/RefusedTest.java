@@ -27,6 +27,31 @@ public final class RefusedTest {
         due.is("bytes ahead, full", Refusals.full().count(5), 120);
     }
 
+    /** Calls that more than one refusal fits. */
+    private void order() {
+        due.sentence("Refusals are answers, the first of these that fits, but as told: BAD (a number is not as told; there is "
+            + "no such thing), STATE (as told), FULL (as told), then FINDINGS, of several the first in time:");
+        call.used("lay(3, 4), BAD ahead of STATE", x -> x.lay(3, 4), BAD);
+        call.bare("image(2), BAD ahead of STATE", x -> x.image(2), BAD);
+        call.bare("restore(2), BAD ahead of STATE", x -> x.restore(2), BAD);
+        call.bare("line(5), STATE ahead of BAD, as told", x -> x.line(5), STATE);
+        call.bare("best(3), STATE ahead of BAD, as told", x -> x.best(3), STATE);
+        call.bare("wrong(2), STATE ahead of BAD, as told", x -> x.wrong(2), STATE);
+        call.bare("chance(100, 11, 2), STATE ahead of BAD, as told", x -> x.chance(100, 11, 2), STATE);
+        call.bare("drawn(61, 0, 2), STATE ahead of BAD, as told", x -> x.drawn(61, 0, 2), STATE);
+        call.full("feed(256), BAD ahead of FULL", x -> x.feed(256), BAD);
+        call.used("row(8, 3, -1), BAD ahead of SIZE", x -> x.row(8, 3, -1), BAD);
+        call.used("set(8, -1, 0), BAD ahead of PLACE", x -> x.set(8, -1, 0), BAD);
+        call.used("set(3, -1, 0), NULL ahead of PLACE", x -> x.set(3, -1, 0), NULL);
+        call.used("copy(8, -1, 3, -1, -1), BAD ahead of all", x -> x.copy(8, -1, 3, -1, -1), BAD);
+        call.used("copy(0, -1, 3, -1, -1), NULL ahead of PLACE", x -> x.copy(0, -1, 3, -1, -1), NULL);
+        call.used("copy(0, -1, 1, -1, -1), STORE ahead of PLACE", x -> x.copy(0, -1, 1, -1, -1), STORE);
+        call.used("fits(0, 3, 6, 3), BAD ahead of NULL", x -> x.fits(0, 3, 6, 3), BAD);
+        call.used("tell(5, 3, -1), BAD ahead of NULL", x -> x.tell(5, 3, -1), BAD);
+        call.used("tell(0, 3, -1), NULL ahead of PLACE", x -> x.tell(0, 3, -1), NULL);
+        call.used("as(5, 3), BAD ahead of KIND", x -> x.as(5, 3), BAD);
+    }
+
     private void row() {
         due.sentence("A ROW of a LANE with n ITEMS, in place of what is there: n. BAD: ROW, LANE, n above 40; SIZE.");
         for (int far : Refusals.FAR) {
@@ -255,6 +280,7 @@ public final class RefusedTest {
     public static void main(String[] args) {
         RefusedTest test = new RefusedTest();
         test.changesAreSeen();
+        test.order();
         test.row();
         test.set();
         test.drop();

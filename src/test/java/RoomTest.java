@@ -1,7 +1,10 @@
 import com.sun.management.ThreadMXBean;
 import java.lang.management.ManagementFactory;
 
-/** All calls of one run live in one room: what an object makes, it makes once, and uses again. */
+/**
+ * All calls of one run live in one room: what an object makes, it makes once, and uses again. It is called more than 512
+ * times here, as what it answers is not looked at.
+ */
 public final class RoomTest {
     private static final ThreadMXBean THREADS = (ThreadMXBean) ManagementFactory.getThreadMXBean();
     private static final String TEXT = "s60,3;p0,3;".repeat(6);

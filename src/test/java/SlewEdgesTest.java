@@ -54,6 +54,15 @@ public final class SlewEdgesTest {
         due.is("together", all.line(2), 54);
         due.is("SLEWS, together", all.line(3), -3);
         due.is("PEGS that have a SLEW", all.count(2), 3);
+        SlewRails twelve = Due.of("p10,3;".repeat(12));
+        for (int p = 0; p < 12; p++) {
+            twelve.lay(p, 3);
+        }
+        due.are("NOW, 12 PEGS all slewed", Due.pegs(twelve, 4), 13, 10, 10, 10, 10, 10, 10, 10, 10, 10, 10, 13);
+        due.is("together", twelve.line(2), 126);
+        due.is("SLEWS, together", twelve.line(3), 36);
+        twelve.lay(11, -3);
+        due.is("SLEWS, together, the last another", twelve.line(3), 30);
     }
 
     /** Each sort at each of three PEGS, VERSINES 10, 25, 5. */

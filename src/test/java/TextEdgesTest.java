@@ -164,6 +164,7 @@ public final class TextEdgesTest {
 
     private static void firstToken(Due due) {
         due.sentence("FAULTS, the first TOKEN that has one (its first byte), of one TOKEN the least:");
+        eachFault(due);
         fault(due, "p61,4;x", 1, 2);
         fault(due, "p60,4;x", 4, 2);
         fault(due, "p60,3;x", 6, 1);
@@ -190,6 +191,36 @@ public final class TextEdgesTest {
         fault(due, "p1;61", 2, 1);
         fault(due, "p1,1;p", 6, 1);
         fault(due, "p1,1;p1,1;p", 11, 1);
+    }
+
+    /** Several FAULTS in one text, each alone in turn. */
+    private static void eachFault(Due due) {
+        String full = "p1,1;".repeat(12);
+        fault(due, "p61,9;x", 1, 2);
+        fault(due, "p1,9;x", 3, 2);
+        fault(due, "p1,1;x", 5, 1);
+        fault(due, "p1,1;", 5, 4);
+        fault(due, "p99," + full + "p", 1, 2);
+        fault(due, full + "p99,9;", 60, 3);
+    }
+
+    private static void faultNumbers(Due due) {
+        due.sentence("2 a NUMBER that is not as told; 3 a peg more than there is room for (its letter); 4 as told.");
+        fault(due, "p60,3;p61,3;p1,1;", 7, 2);
+        fault(due, "p60,3;p60,4;p1,1;", 10, 2);
+        good(due, "p60,3;p60,3;p1,1;", 3);
+        fault(due, "p60,3;".repeat(13), 72, 3);
+        good(due, "p60,3;".repeat(12), 12);
+        fault(due, "p60,3;p60,3;", 12, 4);
+        due.sentence("rail: peg { peg }. peg: SORT V , B ; (SORT: p a plain one, b one at a bridge, s a soft one, j a joint, e "
+            + "an end;");
+        SlewRails x = Due.of("p1,0;b2,1;s3,2;j4,3;e5,0;");
+        long[] kinds = {1, 4, 2, 3, 5};
+        for (int p = 0; p < 5; p++) {
+            due.is("kind(" + p + ")", x.kind(p), kinds[p]);
+        }
+        due.are("VERSINES", Due.pegs(x, 0), 1, 2, 3, 4, 5);
+        due.are("BOUNDS", Due.pegs(x, 1), 0, 1, 2, 3, 0);
     }
 
     private static void inPlace(Due due) {
@@ -281,6 +312,7 @@ public final class TextEdgesTest {
         ends(due);
         manyPegs(due);
         firstToken(due);
+        faultNumbers(due);
         inPlace(due);
         allStays(due);
         latestFault(due);
