@@ -1,3 +1,7 @@
+import java.io.IOException;
+import java.nio.file.Files;
+import java.nio.file.Path;
+
 /** Compares answers with those that are due, for tests that have a main method of their own. */
 final class Due {
     private final String name;
@@ -6,17 +10,33 @@ final class Due {
     private int askedOfSentence = 1;
     private int asked = 0;
     private int wrong = 0;
+    private String document = null;
 
     Due(String name) {
         this.name = name;
     }
 
-    /** What follows, up to the next sentence, tests this one: the document's own words. */
+    /** What follows, up to the next sentence, tests this one: the document's own words, which have to be in it. */
     void sentence(String words) {
         endSentence();
+        if (!document().contains(words)) {
+            wrong++;
+            System.out.println(name + ": not in the document: " + words);
+        }
         sentence = " [" + words + "]";
         sentences++;
         askedOfSentence = 0;
+    }
+
+    private String document() {
+        if (document == null) {
+            try {
+                document = Files.readString(Path.of("../shared/DOC.md")).replaceAll("\\s+", " ");
+            } catch (IOException e) {
+                document = "";
+            }
+        }
+        return document;
     }
 
     private void endSentence() {
