@@ -5,8 +5,9 @@ import java.util.Random;
 
 /**
  * Promise 17 on RAILS of 7 to 12 PEGS, most of them with a BOUND of 3, where all SLEWS are too many to be tried one by one
- * as BestTest does. From PEG 0 on, the best row of SLEWS is kept for each choice of its latest three (no STEP to come hangs on more), first with no STEP
- * above 0, then 1, and so on, until there is a row that comes through: that limit is the least WORST.
+ * as BestTest does. From PEG 0 on, the best row of SLEWS is kept for each choice of its latest three (no STEP to come
+ * hangs on more), first with no STEP above 0, then 1, and so on, until there is a row that comes through: that limit is
+ * the least WORST.
  */
 public final class BestLongTest {
     private static final int UNEVEN = 0, MOVED = 1, SLEWS = 2;
